@@ -152,9 +152,15 @@ public final class BeltKnots {
         history.push(state);
         int done = 0;
         int reason = CAN;
-        for (int start = 0; start < buffer.size() && reason == CAN; start = buffer.endOfPart(start) + 1) {
-            reason = doPart(start);
-            done += reason == CAN ? 1 : 0;
+        for (int index = 0; index < buffer.size() && reason == CAN; index++) {
+            if (!buffer.beginsPart(index)) {
+                continue;
+            }
+            reason = whyNotDone(index);
+            if (reason == CAN) {
+                doPart(index);
+                done++;
+            }
         }
         state.put(State.STOP_PART, done);
         state.put(State.STOP_REASON, reason);
@@ -249,7 +255,7 @@ public final class BeltKnots {
 
     public int count(int what) throws IllegalArgumentException {
         needWhat(what, 13);
-        return numberOfAll(what);
+        return what == 13 ? history.size() : Tally.ofAll(state, what);
     }
 
     // ---- what would be; nothing is changed
@@ -291,9 +297,10 @@ public final class BeltKnots {
 
     public long digest() {
         long hash = 3917;
-        for (int what = 0; what <= 13; what++) {
-            hash = 31 * hash + numberOfAll(what);
+        for (int what = 0; what <= 12; what++) {
+            hash = 31 * hash + Tally.ofAll(state, what);
         }
+        hash = 31 * hash + history.size();
         hash = Digest.withLetters(state, hash);
         for (int fisher = 0; fisher < FISHERS; fisher++) {
             hash = Digest.withFisher(state, fisher, hash);
@@ -339,59 +346,54 @@ public final class BeltKnots {
         return state.at(what == 0 ? State.STOP_PART : State.STOP_REASON);
     }
 
-    private int numberOfAll(int what) {
-        return what == 13 ? history.size() : Tally.ofAll(state, what);
-    }
-
-    /** Does the part of the buffer from start on, and answers the reason if it cannot. */
-    private int doPart(int start) {
+    /**
+     * Answers why the part of the buffer from start on cannot be done; what it
+     * would tie is left in the word.
+     */
+    private int whyNotDone(int start) {
         int first = buffer.at(start);
         int place = start + Reader.placeOfFisher(first);
         int fisher = buffer.digitAt(place);
-        if (first == 't') {
-            return doTie(fisher, place + 2, buffer.endOfPart(start));
-        }
         if (first == 's') {
-            Sea.comeOver(state, fisher);
             return CAN;
+        }
+        if (first == 't') {
+            buffer.spell(word, place + 2, buffer.endOfPart(start));
+            return Names.whyNotTied(state, word, fisher);
         }
         int name = buffer.digitAt(place + 2);
         if (!state.hasName(fisher, name)) {
             return NO_SUCH_NAME;
         }
         if (first == 'g') {
-            return doGive(fisher, name, buffer.digitAt(place + 4));
+            return Names.whyNotGiven(state, word, fisher, name, buffer.digitAt(place + 4));
         }
-        if (first == 'f') {
-            return doFast(fisher, name);
-        }
-        Names.takeOff(state, fisher, name);
-        return CAN;
+        return first == 'f' ? Names.whyNotTightened(state, fisher, name) : CAN;
     }
 
-    private int doTie(int fisher, int from, int end) {
-        buffer.spell(word, from, end);
-        int reason = Names.whyNotTied(state, word, fisher);
-        if (reason == CAN) {
-            Names.tieOn(state, word, fisher);
+    /** Does the part of the buffer from start on, which whyNotDone has just found nothing against. */
+    private void doPart(int start) {
+        int first = buffer.at(start);
+        int place = start + Reader.placeOfFisher(first);
+        int fisher = buffer.digitAt(place);
+        int name = buffer.digitAt(place + 2);
+        switch (first) {
+            case 't':
+                Names.tieOn(state, word, fisher);
+                break;
+            case 's':
+                Sea.comeOver(state, fisher);
+                break;
+            case 'g':
+                Names.handOver(state, word, fisher, name, buffer.digitAt(place + 4));
+                break;
+            case 'f':
+                Names.tighten(state, fisher, name);
+                break;
+            default:
+                Names.takeOff(state, fisher, name);
+                break;
         }
-        return reason;
-    }
-
-    private int doGive(int fisher, int name, int other) {
-        int reason = Names.whyNotGiven(state, word, fisher, name, other);
-        if (reason == CAN) {
-            Names.handOver(state, word, fisher, name, other);
-        }
-        return reason;
-    }
-
-    private int doFast(int fisher, int name) {
-        int reason = Names.whyNotTightened(state, fisher, name);
-        if (reason == CAN) {
-            Names.tighten(state, fisher, name);
-        }
-        return reason;
     }
 
     /** The letters, how they are tied and how they are read. */
@@ -405,7 +407,7 @@ public final class BeltKnots {
         }
 
         static int cordOfKnot(int letter) {
-            return 2 * turns(letter) + loops(letter);
+            return 2 * (letter / 4 + 1) + letter % 4;
         }
 
         static boolean isVowel(int letter) {
@@ -469,6 +471,8 @@ public final class BeltKnots {
         // cells of all
         static final int STORMS = 0;
         static final int SETTINGS = 1;
+        static final int LOOSENING_STEP = SETTINGS;
+        static final int UNREADABLE_BORNE = SETTINGS + 1;
         static final int KNOTS_TIED = 3;
         static final int CORD_TIED = 4;
         static final int STOP_PART = 5;
@@ -508,8 +512,8 @@ public final class BeltKnots {
         private final int[] cells = new int[CELLS];
 
         State() {
-            put(SETTINGS, 3);
-            put(SETTINGS + 1, 1);
+            put(LOOSENING_STEP, 3);
+            put(UNREADABLE_BORNE, 1);
             for (int fisher = 0; fisher < FISHERS; fisher++) {
                 put(fisherCell(fisher, LENGTH), FIRST_BELT);
             }
@@ -524,7 +528,8 @@ public final class BeltKnots {
         }
 
         static int knotCell(int fisher, int name, int knot) {
-            return nameCell(fisher, name) + KNOTS_FROM + knot * KNOT_CELLS;
+            int fisherFrom = FISHERS_FROM + fisher * FISHER_CELLS;
+            return fisherFrom + NAMES_FROM + name * NAME_CELLS + KNOTS_FROM + knot * KNOT_CELLS;
         }
 
         static int entryCell(int entry, int what) {
@@ -587,7 +592,7 @@ public final class BeltKnots {
 
         int cordOf(int fisher, int name) {
             int cord = CORD_OF_NAME;
-            int knots = knots(fisher, name);
+            int knots = at(nameCell(fisher, name) + KNOTS);
             for (int knot = 0; knot < knots; knot++) {
                 int letter = at(knotCell(fisher, name, knot) + TIED_AS);
                 cord += Alphabet.cordOfKnot(letter) + CORD_BEHIND_KNOT;
@@ -684,6 +689,10 @@ public final class BeltKnots {
             int old = size;
             size = 0;
             return old;
+        }
+
+        boolean beginsPart(int index) {
+            return index == 0 || at(index - 1) == ';';
         }
 
         int endOfPart(int start) {
@@ -901,7 +910,7 @@ public final class BeltKnots {
         static int loosenedBehind(State state, int fisher, int name, int knot, int storms) {
             int cell = State.knotCell(fisher, name, knot);
             int loosened = state.at(cell + State.LOOSENED);
-            int divisor = state.at(State.SETTINGS);
+            int divisor = state.at(State.LOOSENING_STEP);
             if (divisor < 1 || !Alphabet.isVowel(state.at(cell + State.TIED_AS))) {
                 return loosened;
             }
@@ -919,13 +928,10 @@ public final class BeltKnots {
             return unreadable;
         }
 
-        private static boolean isLostBehind(State state, int fisher, int name, int storms) {
-            return unreadableBehind(state, fisher, name, storms) > state.at(State.SETTINGS + 1);
-        }
-
         static int stormsToLoss(State state, int fisher, int name) {
+            int borne = state.at(State.UNREADABLE_BORNE);
             for (int storms = 1; storms <= STORMS_AHEAD; storms++) {
-                if (isLostBehind(state, fisher, name, storms)) {
+                if (unreadableBehind(state, fisher, name, storms) > borne) {
                     return storms;
                 }
             }
@@ -935,9 +941,10 @@ public final class BeltKnots {
         static int ofNextStorm(State state, int fisher, int what) {
             int lost = 0;
             int loosened = 0;
+            int borne = state.at(State.UNREADABLE_BORNE);
             int names = state.names(fisher);
             for (int name = 0; name < names; name++) {
-                lost += isLostBehind(state, fisher, name, 1) ? 1 : 0;
+                lost += unreadableBehind(state, fisher, name, 1) > borne ? 1 : 0;
                 loosened += loosenedByNext(state, fisher, name);
             }
             return what == 0 ? lost : loosened;
@@ -960,10 +967,11 @@ public final class BeltKnots {
                 loosen(state, fisher, name);
             }
             state.add(State.STORMS, 1);
+            int borne = state.at(State.UNREADABLE_BORNE);
             int lost = 0;
             for (int met = 0; met < names; met++) {
                 int name = met - lost;
-                if (isLostBehind(state, fisher, name, 0)) {
+                if (unreadableBehind(state, fisher, name, 0) > borne) {
                     lose(state, fisher, name);
                     lost++;
                 }
@@ -1131,8 +1139,8 @@ public final class BeltKnots {
                 case 8: return ofFishers(state, State.GIVEN);
                 case 9: return state.at(State.KNOTS_TIED);
                 case 10: return fishersWithSharedNames(state);
-                case 11: return state.at(State.SETTINGS);
-                default: return state.at(State.SETTINGS + 1);
+                case 11: return state.at(State.LOOSENING_STEP);
+                default: return state.at(State.UNREADABLE_BORNE);
             }
         }
 
