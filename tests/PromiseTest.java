@@ -172,6 +172,13 @@ public final class PromiseTest {
         }
         typeAnew("g");
         refused("the seventh name", STATE, () -> x.tie(3));
+        // knots are tied tight, also in the place of a name that was loose
+        x.set(0, 1);
+        tied(4, "oe");
+        x.storm(4);
+        x.cut(4, 1);
+        due("in its place", tied(4, "oe"), 1);
+        due("tight", x.knot(4, 1, 0, 2), 0);
         // a name that a knot has loosened into is the same name then
         x = new BeltKnots();
         x.set(0, 1);
@@ -192,6 +199,16 @@ public final class PromiseTest {
         refused("cut(0, 3)", INDEX, () -> x.cut(0, 3));
         refused("cut(0, -1)", INDEX, () -> x.cut(0, -1));
         refused("cut(1, 0)", INDEX, () -> x.cut(1, 0));
+        x.set(0, 1);
+        x.set(1, 0);
+        tied(3, "aaaaa");
+        stormy(3, 2);
+        refused("cut(5, 0) with a list", INDEX, () -> x.cut(5, 0));
+        refused("cut(5, 1) with a list", INDEX, () -> x.cut(5, 1));
+        // back to before the name on belt 3
+        x.undo();
+        x.undo();
+        x.undo();
         undone("cut", () -> x.cut(0, 0));
         due("cut(0, 1)", x.cut(0, 1), 10);
         due("the belt", toldWhole(0), "a-c");
@@ -242,6 +259,18 @@ public final class PromiseTest {
         due("still tied as", x.knot(0, 0, 0, 0), 0);
         due("tied as it read", x.knot(0, 0, 1, 0), 1);
         due("cord", x.name(0, 0, 1), 2 + 3 + 4);
+        x.storm(0);
+        due("the belt", toldWhole(0), "?b");
+        x = new BeltKnots();
+        x.set(0, 2);
+        x.set(1, 8);
+        tied(0, "aabbbc");
+        stormy(0, 3);
+        x.belt(0, x.name(0, 0, 1) + 1);
+        due("the belt", toldWhole(0), "?bbbbc");
+        due("only what is tightened takes more", x.fast(0, 0), 1);
+        due("nothing left", x.fisher(0, 2), 0);
+        due("again", x.fast(0, 0), 0);
         // too short a belt by 1
         x = new BeltKnots();
         x.set(0, 1);
@@ -472,8 +501,22 @@ public final class PromiseTest {
         due("the buffer", bufferLength(), 0);
         due("no stop then", worked("storm2"), 1);
         due("stopped(1)", x.stopped(1), -1);
+        x = new BeltKnots();
+        x.set(0, 1);
+        due("three names", worked("tie0:b;tie0:ae;tie0:c;tie0:d;storm0"), 5);
+        due("tightened", worked("fast0/1"), 1);
+        due("tight", x.count(5), 0);
+        due("as tied", x.knot(0, 1, 1, 0), 5);
+        due("given and cut", worked("give0/2>3;cut0/1;give0/1>4"), 3);
+        due("belt 0", toldWhole(0), "b");
+        due("belt 3", toldWhole(3), "c");
+        due("belt 4", toldWhole(4), "d");
+        due("a storm for each letter", worked("tie2:abcdefgh;storm1;tie2:aa;storm2;fast2/1"), 5);
+        due("belt 2", toldWhole(2), "bbcdffgh-bb");
+        due("tightened", x.count(5), 2);
+        x = new BeltKnots();
         due("eight storms", worked("storm0;storm0;storm0;storm0;storm0;storm0;storm0;storm0"), 8);
-        due("storms", x.count(1), 11);
+        due("storms", x.count(1), 8);
     }
 
     private static void stopped() {
@@ -680,6 +723,9 @@ public final class PromiseTest {
         due("other letters", x.name(1, 0, 2), 2);
         due("unreadable", x.name(1, 0, 3), 0);
         due("lost behind two more", x.name(1, 0, 4), 2);
+        x.set(0, 1);
+        due("unreadable now", x.name(1, 0, 3), 0);
+        x.set(0, 3);
         stormy(0, 1);
         due("storms to others count on", x.name(1, 0, 4), 1);
         stormy(0, 1);
@@ -820,6 +866,9 @@ public final class PromiseTest {
         due("by what was tied", x.count(4), 38);
         due("knots tied", x.count(9), 6);
         due("no shared names", x.count(10), 0);
+        tied(3, "a");
+        due("one begins as another", x.count(10), 0);
+        x.undo();
         x.storm(0);
         due("shared as they read", x.count(10), 3);
         due("loosened", x.count(5), 1);
@@ -957,7 +1006,25 @@ public final class PromiseTest {
         due("one of two names", x.ifStorm(0, 0), 1);
         due("storm(0)", x.storm(0), 1);
         due("an empty belt", x.ifStorm(4, 1), 0);
+        x = new BeltKnots();
+        x.set(0, 1);
+        tied(0, "aac");
+        x.set(1, 2);
+        x.storm(0);
+        due("as many as are borne", x.ifStorm(0, 0), 0);
+        x.set(1, 1);
+        due("one more", x.ifStorm(0, 0), 1);
+        x = new BeltKnots();
+        x.set(0, 1);
+        tied(1, "aac");
+        due("two storms would, one does not", x.ifStorm(1, 0), 0);
+        x = new BeltKnots();
+        tied(0, "aaaa");
+        tied(0, "pe");
+        x.cut(0, 0);
+        stormy(0, 3);
         // what reads as "?" is loosened once more
+        x.set(0, 1);
         x.set(1, 8);
         stormy(0, 3);
         due("again", x.ifStorm(0, 1), 1);
@@ -1104,6 +1171,21 @@ public final class PromiseTest {
         }
         tied(1, "eeeeeeee");
         x.storm(1);
-        due("of a small share", x.digest(), digestByFace(""));
+        due("of 9 in 18", x.digest(), digestByFace(""));
+        x.cut(1, 0);
+        x.storm(0);
+        tied(1, "aaaaaaa");
+        x.storm(1);
+        due("of 9 in 17", x.digest(), digestByFace(""));
+        x = new BeltKnots();
+        x.set(0, 1);
+        x.set(1, 8);
+        for (String name : new String[] {"aaaaaa", "aaeaaa", "aaaeae", "aeaaaa", "aaaaeb"}) {
+            x.belt(0, 120);
+            tied(0, name);
+            due("of a long belt", x.digest(), digestByFace(""));
+        }
+        x.storm(0);
+        due("of 1 in 30", x.digest(), digestByFace(""));
     }
 }
