@@ -173,12 +173,17 @@ public final class PromiseTest {
         typeAnew("g");
         refused("the seventh name", STATE, () -> x.tie(3));
         // knots are tied tight, also in the place of a name that was loose
+        x = new BeltKnots();
         x.set(0, 1);
-        tied(4, "oe");
+        x.belt(4, 120);
+        for (String name : new String[] {"b", "c", "d", "f", "g", "oe"}) {
+            tied(4, name);
+        }
         x.storm(4);
-        x.cut(4, 1);
-        due("in its place", tied(4, "oe"), 1);
-        due("tight", x.knot(4, 1, 0, 2), 0);
+        x.cut(4, 0);
+        due("in its place", tied(4, "oe"), 5);
+        due("tight", x.knot(4, 5, 0, 2), 0);
+        due("the belt", toldWhole(4), "c-d-f-g-pf-oe");
         // a name that a knot has loosened into is the same name then
         x = new BeltKnots();
         x.set(0, 1);
