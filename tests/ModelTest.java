@@ -11,7 +11,7 @@ import java.util.regex.Pattern;
  */
 public final class ModelTest {
     private static final int RUNS = 2000;
-    private static final int CALLS = 400; // and a digest behind most that are no append: 512 at most
+    private static final int CALLS = 512; // with the digests that are asked behind many of them
     private static final String LETTERS = "abcdefghijklmnop";
     private static final String VOWELS = "aeio";
 
@@ -688,11 +688,13 @@ public final class ModelTest {
     }
 
     private static String failed;
+    private static int calls; // of this run
     private static boolean stormy; // the run drowns many, and seldom goes back
 
     private static boolean agree(String call, Asked real, Asked model) {
         String got;
         String want;
+        calls++;
         try {
             got = Long.toString(real.ask());
         } catch (RuntimeException e) {
@@ -810,11 +812,15 @@ public final class ModelTest {
         BeltKnots x = new BeltKnots();
         Model m = new Model();
         String pending = "";
-        for (int call = 0; call < CALLS; call++) {
+        calls = 0;
+        boolean begun = false;
+        // a turn makes one call, or two, and a digest
+        while (calls <= CALLS - 3) {
             boolean agreed;
             boolean typed = !pending.isEmpty();
-            if (call == 0) {
+            if (!begun) {
                 agreed = begin(x, m, run);
+                begun = true;
             } else if (!pending.isEmpty()) {
                 int code = pending.charAt(0);
                 pending = pending.substring(1);
@@ -833,7 +839,7 @@ public final class ModelTest {
             }
             boolean asked = !typed && below(3) > 0;
             if (!agreed || asked && !agree("digest() behind it", x::digest, m::digest)) {
-                System.out.println("run " + run + ", call " + call + ": " + failed);
+                System.out.println("run " + run + ", call " + calls + ": " + failed);
                 return false;
             }
         }

@@ -1,16 +1,5 @@
-import java.util.function.IntSupplier;
-
 /** A test for each promise of the document: ordinary inputs, the edges that it names, and wrong inputs. */
-public final class PromiseTest {
-    private static final String INDEX = "IndexOutOfBoundsException";
-    private static final String ARGUMENT = "IllegalArgumentException";
-    private static final String STATE = "IllegalStateException";
-
-    private static int promise;
-    private static int checks;
-    private static int wrong;
-    private static BeltKnots x;
-
+public final class PromiseTest extends Asking {
     public static void main(String[] args) {
         Runnable[] promises = {
             PromiseTest::newObject, PromiseTest::tie, PromiseTest::cut, PromiseTest::fast,
@@ -21,100 +10,10 @@ public final class PromiseTest {
             PromiseTest::fisher, PromiseTest::drowned, PromiseTest::find, PromiseTest::count,
             PromiseTest::whyNot, PromiseTest::noGift, PromiseTest::ifStorm, PromiseTest::bestBelt,
             PromiseTest::trueShare, PromiseTest::digest};
-        for (promise = 1; promise <= promises.length; promise++) {
-            x = new BeltKnots();
-            int before = checks;
-            promises[promise - 1].run();
-            if (checks == before) {
-                wrong++;
-                System.out.println("promise " + promise + ": nothing was checked");
-            }
+        for (int number = 1; number <= promises.length; number++) {
+            test("promise " + number, promises[number - 1]);
         }
-        System.out.println(checks + " answers of " + promises.length + " promises, " + wrong + " wrong");
-        System.exit(wrong == 0 ? 0 : 1);
-    }
-
-    // ---- how the tests ask
-
-    private static void due(String call, long got, long want) {
-        checks++;
-        if (got != want) {
-            wrong++;
-            System.out.println("promise " + promise + ": " + call + " answered " + got + ", due is " + want);
-        }
-    }
-
-    private static void due(String call, String got, String want) {
-        checks++;
-        if (!got.equals(want)) {
-            wrong++;
-            System.out.println("promise " + promise + ": " + call + " answered " + got + ", due is " + want);
-        }
-    }
-
-    /** The call throws just this exception, and nothing is changed by it. */
-    private static void refused(String call, String exception, IntSupplier asked) {
-        long before = x.digest();
-        String got;
-        try {
-            got = Integer.toString(asked.getAsInt());
-        } catch (RuntimeException e) {
-            got = e.getClass().getSimpleName();
-        }
-        due(call, got, exception);
-        due("the digest behind " + call, x.digest(), before);
-    }
-
-    /** The call is undoable: undo brings back the digest, but for the buffer. */
-    private static void undone(String call, IntSupplier asked) {
-        x.clearBuffer();
-        long before = x.digest();
-        due("saved states for " + call, x.count(13) < 6 ? 1 : 0, 1);
-        int saved = x.count(13);
-        asked.getAsInt();
-        due("saved states behind " + call, x.count(13), saved + 1);
-        due("undo() of " + call, x.undo(), saved);
-        due("the digest behind undo() of " + call, x.digest(), before);
-    }
-
-    private static void type(String text) {
-        for (int i = 0; i < text.length(); i++) {
-            x.append(text.charAt(i));
-        }
-    }
-
-    private static void typeAnew(String text) {
-        x.clearBuffer();
-        type(text);
-    }
-
-    private static int tied(int fisher, String name) {
-        typeAnew(name);
-        return x.tie(fisher);
-    }
-
-    private static int worked(String works) {
-        typeAnew(works);
-        return x.work();
-    }
-
-    private static void stormy(int fisher, int storms) {
-        for (int i = 0; i < storms; i++) {
-            x.storm(fisher);
-        }
-    }
-
-    private static String toldWhole(int fisher) {
-        StringBuilder text = new StringBuilder();
-        for (int i = 0; x.told(fisher, i) != BeltKnots.NONE; i++) {
-            text.append((char) x.told(fisher, i));
-        }
-        return text.toString();
-    }
-
-    private static int bufferLength() {
-        int length = x.clearBuffer();
-        return length;
+        end();
     }
 
     // ---- the promises
@@ -1066,14 +965,6 @@ public final class PromiseTest {
         due("nothing is tied", x.count(0), 1);
     }
 
-    private static void share(double want) {
-        checks++;
-        if (x.trueShare() != want) {
-            wrong++;
-            System.out.println("promise 29: trueShare() answered " + x.trueShare() + ", due is " + want);
-        }
-    }
-
     private static void trueShare() {
         share(1.0);
         x.set(0, 1);
@@ -1100,97 +991,51 @@ public final class PromiseTest {
         share(0.0);
     }
 
-    /** The hash, told anew from the answers of the other methods. */
-    private static long digestByFace(String buffer) {
-        long hash = 3917;
-        for (int what = 0; what <= 13; what++) {
-            hash = 31 * hash + x.count(what);
-        }
-        for (int l = 0; l < 16; l++) {
-            for (int what = 0; what <= 5; what++) {
-                hash = 31 * hash + x.letter(l, what);
-            }
-        }
-        for (int f = 0; f < 5; f++) {
-            for (int what = 0; what <= 4; what++) {
-                hash = 31 * hash + x.fisher(f, what);
-            }
-            hash = 31 * (31 * hash + x.ifStorm(f, 0)) + x.ifStorm(f, 1);
-            for (char code : toldWhole(f).toCharArray()) {
-                hash = 31 * hash + code;
-            }
-            for (int n = 0; n < x.fisher(f, 1); n++) {
-                for (int what = 0; what <= 4; what++) {
-                    hash = 31 * hash + x.name(f, n, what);
-                }
-                for (int k = 0; k < x.name(f, n, 0); k++) {
-                    for (int what = 0; what <= 2; what++) {
-                        hash = 31 * hash + x.knot(f, n, k, what);
-                    }
-                }
-            }
-        }
-        for (int e = 0; e < x.count(6); e++) {
-            for (int what = 0; what <= 3; what++) {
-                hash = 31 * hash + x.drowned(e, what);
-            }
-        }
-        hash = 31 * (31 * hash + x.stopped(0)) + x.stopped(1);
-        hash = 31 * hash + Double.doubleToLongBits(x.trueShare());
-        hash = 31 * hash + buffer.length();
-        for (char code : buffer.toCharArray()) {
-            hash = 31 * hash + code;
-        }
-        return hash;
+    private static void digest() {
+        digestIs("a new object", () -> x = new BeltKnots(), "");
+        digestIs("names", PromiseTest::someNames, "");
+        digestIs("a storm", () -> {
+            someNames();
+            x.storm(0);
+        }, "");
+        digestIs("a stop", PromiseTest::someStop, "");
+        digestIs("a buffer", () -> {
+            someStop();
+            type("cut0/~");
+        }, "cut0/~");
+        digestIs("an entry", () -> {
+            someStop();
+            stormy(0, 3);
+        }, "");
+        digestIs("the share 0", () -> looseNames("a"), "");
+        digestIs("9 in 18", () -> looseNames("a", "eeeeeeee", "c", "bb", "d", "cb", "bbc"), "");
+        digestIs("1 in 30", () -> looseNames("b", "aaaaaa", "aaeaaa", "aaaeae", "aeaaaa", "aaaaa"), "");
     }
 
-    private static void digest() {
-        due("of a new object", x.digest(), digestByFace(""));
+    private static void someNames() {
+        x = new BeltKnots();
         x.set(0, 2);
-        tied(0, "anna");
-        tied(0, "bob");
+        tiedAll(0, "anna", "bob");
         tied(1, "aeio");
         tied(4, "bnna");
-        due("of names", x.digest(), digestByFace(""));
+    }
+
+    private static void someStop() {
+        someNames();
         x.storm(0);
-        due("of a storm", x.digest(), digestByFace(""));
         worked("tie2:o;storm1;storm1;cut3/0");
-        due("of a stop", x.digest(), digestByFace(""));
-        type("cut0/~");
-        due("of a buffer", x.digest(), digestByFace("cut0/~"));
-        x.storm(0);
-        x.storm(0);
-        x.storm(0);
-        due("of an entry", x.digest(), digestByFace("cut0/~"));
-        due("again", x.digest(), x.digest());
-        // shares of each kind: 0, and fractions that end and that do not
+    }
+
+    private static void looseNames(String... names) {
         x = new BeltKnots();
-        x.set(0, 1);
-        x.set(1, 8);
-        tied(0, "a");
-        x.storm(0);
-        due("of the share 0", x.digest(), digestByFace(""));
-        for (String name : new String[] {"c", "bb", "d", "cb", "g"}) {
-            tied(0, name);
-            due("of a share", x.digest(), digestByFace(""));
+        weather(1, 8);
+        x.belt(0, 120);
+        tiedAll(0, names[0]);
+        for (int n = 1; n < names.length; n++) {
+            tied(n % 5, names[n]);
         }
-        tied(1, "eeeeeeee");
-        x.storm(1);
-        due("of 9 in 18", x.digest(), digestByFace(""));
-        x.cut(1, 0);
-        x.storm(0);
-        tied(1, "aaaaaaa");
-        x.storm(1);
-        due("of 9 in 17", x.digest(), digestByFace(""));
-        x = new BeltKnots();
-        x.set(0, 1);
-        x.set(1, 8);
-        for (String name : new String[] {"aaaaaa", "aaeaaa", "aaaeae", "aeaaaa", "aaaaeb"}) {
-            x.belt(0, 120);
-            tied(0, name);
-            due("of a long belt", x.digest(), digestByFace(""));
+        for (int f = 0; f < 5; f++) {
+            x.storm(f);
         }
-        x.storm(0);
-        due("of 1 in 30", x.digest(), digestByFace(""));
     }
 }
