@@ -170,6 +170,49 @@ public final class FaceEdgeTest extends Asking {
             due("the belt", toldWhole(3), "");
             due("left", x.fisher(3, 2), 60);
         });
+        test("3: the sixth name: nothing of it is left", () -> {
+            x.set(0, 1);
+            tiedAll(0, SIX);
+            tied(2, "f");
+            x.belt(4, 120);
+            tiedAll(4, "m", "n", "h", "j", "k", "f"); // takes 11, 12, 10, 10, 11 and 8
+            x.cut(0, 5);
+            x.cut(4, 5);
+            due("the belt", toldWhole(0), "a-b-c-d-e");
+            for (int index = 9; index <= 20; index++) {
+                due("told(0, " + index + ")", x.told(0, index), -1);
+            }
+            due("shared names", x.count(10), 0);
+            due("f, tied", x.letter(5, 4), 1);
+            due("f, read", x.letter(5, 5), 1);
+            due("why not", whyNotTied(0, "f"), 0);
+            cordIs("of the others", 5 + 6 + 7 + 8 + 7 + 8 + 54);
+            due("knots that a storm would loosen", x.ifStorm(0, 1), 2);
+            due("tied anew", tied(0, "g"), 5);
+            due("the belt", toldWhole(0), "a-b-c-d-e-g");
+        });
+        test("3: a shorter name in the sixth place, where a longer one was loose", () -> {
+            weather(1, 8);
+            x.belt(0, 120);
+            tiedAll(0, "b", "c", "d", "f", "g", "aeioaeio"); // the five take 38
+            tied(1, "bb");
+            x.storm(0);
+            x.cut(0, 5);
+            tied(0, "kdb"); // takes 21
+            x.belt(0, 59);
+            due("none is loose", x.count(5), 0);
+            due("none would be", x.ifStorm(0, 1), 0);
+            due("tightened", x.fast(0, 5), 0);
+            due("knots", x.name(0, 5, 0), 3);
+            due("other letters", x.name(0, 5, 2), 0);
+            due("o, tied", x.letter(14, 4), 0);
+            cordIs("of both", 59 + 10);
+            tied(2, "kdb");
+            due("like another one", x.count(10), 1 + 4);
+            due("given", x.give(0, 5, 3), 0);
+            due("the belt", toldWhole(3), "kdb");
+            share(1.0);
+        });
         test("3: returns the cord that it took", () -> {
             weather(1, 8);
             x.belt(0, 120);
@@ -635,6 +678,31 @@ public final class FaceEdgeTest extends Asking {
             x.keep();
             due("restore()", x.restore(), 1);
         });
+        test("17: restores the state of the snapshot: all of it", () -> {
+            weather(1, 0);
+            tiedAll(0, "a", "b", "k");
+            x.give(0, 1, 4);
+            stormy(0, 2);
+            worked("fast0/0;cut3/0");
+            x.belt(1, 120);
+            x.keep();
+            due("saved states", x.count(13), 6);
+            long snapshot = x.digest();
+            weather(9, 8);
+            tiedAll(2, "e", "f", "ei");
+            x.give(2, 0, 0);
+            weather(1, 0);
+            stormy(0, 2);
+            stormy(2, 2);
+            x.cut(4, 0);
+            x.belt(1, 90);
+            x.belt(3, 20);
+            worked("give2/0>2");
+            due("saved states", x.count(13), 6);
+            due("restore()", x.restore(), 2);
+            due("the digest", x.digest(), snapshot);
+            due("a lost name", found("a"), 0);
+        });
         test("17: the snapshot stays", () -> {
             x.keep();
             for (int i = 0; i < 8; i++) {
@@ -876,6 +944,22 @@ public final class FaceEdgeTest extends Asking {
             due("lost by another", x.fisher(1, 3), 0);
             x.undo();
             due("undone", x.fisher(0, 3), 12);
+        });
+        test("21: 3 and 4: names lost and names given away, each by itself", () -> {
+            weather(1, 0);
+            tiedAll(0, "b", "a");
+            x.give(0, 0, 1);
+            due("lost", x.fisher(0, 3), 0);
+            due("given away", x.fisher(0, 4), 1);
+            stormy(0, 2);
+            due("lost", x.fisher(0, 3), 1);
+            due("given away", x.fisher(0, 4), 1);
+            due("lost in all", x.count(7), 1);
+            due("given in all", x.count(8), 1);
+            tiedAll(0, "e", "i");
+            stormy(0, 2);
+            due("lost", x.fisher(0, 3), 3);
+            due("given away", x.fisher(0, 4), 1);
         });
         test("21: 4: names given away so far, not those that were got", () -> {
             tied(0, "a");

@@ -296,6 +296,19 @@ public final class TermsEdgeTest extends Asking {
             due("once more", x.knot(0, 0, 0, 2), 2);
             due("once more", x.knot(0, 5, 7, 2), 2);
         });
+        test("each vowel on the belt: no other belt's, full ones on either side", () -> {
+            weather(1, 8);
+            for (int f = 0; f < 5; f++) {
+                x.belt(f, 120);
+                tiedAll(f, "a", "ea", "iae", "ba", "caab", "aaaaaaaa");
+            }
+            due("names lost", x.storm(2), 0);
+            for (int f = 0; f < 5; f++) {
+                due("the belt of " + f, toldWhole(f),
+                    f == 2 ? "b-fb-jbf-bb-cbbb-bbbbbbbb" : "a-ea-iae-ba-caab-aaaaaaaa");
+            }
+            due("knots that were loosened", x.count(5), 17);
+        });
         test("a storm to a belt with no name counts", () -> {
             due("names lost", x.storm(3), 0);
             due("storms", x.count(1), 1);
@@ -438,11 +451,11 @@ public final class TermsEdgeTest extends Asking {
             weather(1, 8);
             x.belt(0, 20);
             tied(0, "aaaaaa");
-            stormy(0, 2);
+            stormy(0, 3);
             due("none is tight then", x.fast(0, 0), 0);
             due("the belt", toldWhole(0), "??????");
             due("as it was tied", x.knot(0, 0, 5, 0), 0);
-            due("how often loosened", x.knot(0, 0, 5, 2), 2);
+            due("how often loosened", x.knot(0, 0, 5, 2), 3);
             due("it takes no more", x.name(0, 0, 1), 20);
         });
         test("a knot that reads as \"?\" stays as it is, among others", () -> {
@@ -460,6 +473,17 @@ public final class TermsEdgeTest extends Asking {
             due("the first", x.knot(0, 0, 0, 2), 0);
             due("the third", x.knot(0, 0, 2, 0), 0);
             due("the third", x.knot(0, 0, 2, 2), 2);
+        });
+        test("a knot that reads as \"?\" takes then as much as it did", () -> {
+            weather(2, 8);
+            tied(0, "pdaa"); // takes 26
+            x.belt(0, 26);
+            stormy(0, 3);
+            due("the belt", toldWhole(0), "pd?b");
+            refused("27 on 26", STATE, () -> x.fast(0, 0));
+            x.belt(0, 27);
+            due("27 on 27", x.fast(0, 0), 1);
+            due("it takes", x.name(0, 0, 1), 27);
         });
         test("it cannot be tightened, if the names would take more than the belt is long then", () -> {
             x.set(0, 1);
@@ -547,6 +571,44 @@ public final class TermsEdgeTest extends Asking {
             due("io", found("io"), 10);
             due("oi", found("oi"), 11);
         });
+        test("the oldest one is dropped first: all letters of the others stay", () -> {
+            weather(1, 0);
+            String last = "bcdfghjklmnp";
+            for (int f = 0; f < 5; f++) {
+                x.belt(f, 120);
+            }
+            for (int n = 0; n < 12; n++) {
+                tied(n % 5, "aaaaaaa" + last.charAt(n));
+            }
+            for (int f = 0; f < 5; f++) {
+                stormy(f, 2);
+            }
+            due("twelve", x.count(6), 12);
+            tied(3, "o");
+            stormy(3, 2);
+            String inOrder = "bhncjpdkflgm"; // of fishers 0 to 4 in turn
+            for (int e = 0; e < 12; e++) {
+                due("place of the name with " + inOrder.charAt(e), found("aaaaaaa" + inOrder.charAt(e)), e - 1);
+            }
+            due("place of the latest", found("o"), 11);
+        });
+        test("the oldest one is dropped first: names on belts stay", () -> {
+            weather(1, 0);
+            x.belt(4, 120);
+            tiedAll(4, "b", "c", "d", "f", "g", "oebabcdi");
+            String belt = "b-c-d-f-g-oebabcdi";
+            sixDrown(0);
+            sixDrown(0);
+            due("the last belt", toldWhole(4), belt);
+            sixDrown(1);
+            due("the last belt", toldWhole(4), belt);
+            for (int k = 0; k < 8; k++) {
+                due("knot " + k + " of its last name, loosened", x.knot(4, 5, k, 2), 0);
+            }
+            stormy(4, 2);
+            due("it is lost then", toldWhole(4), "b-c-d-f-g");
+            due("as it was tied first", found("oebabcdi"), 11);
+        });
         test("an entry can be found by a name: that of the latest storm with it", () -> {
             weather(1, 0);
             due("in an empty list", found("a"), -1);
@@ -571,9 +633,12 @@ public final class TermsEdgeTest extends Asking {
             stormy(1, 2);
             due("twelve", x.count(6), 12);
             due("the oldest", found("io"), 0);
+            due("its knots", x.drowned(0, 0), 2);
             tied(1, "oi");
             stormy(1, 2);
             due("dropped", found("io"), -1);
+            due("knots of the oldest then", x.drowned(0, 0), 1);
+            due("the oldest then", found("a"), 6);
             due("the latest", found("oi"), 11);
         });
         test("the same name twice in one storm: the later place", () -> {
@@ -915,6 +980,53 @@ public final class TermsEdgeTest extends Asking {
             complete("cut4/5");
             errorAt(6, "cut0/0>");
             errorAt(6, "cut0/00");
+        });
+        test("a name, 0 to 5 (by its place on the belt)", () -> {
+            x.belt(0, 120);
+            tiedAll(0, "b", "c", "d", "f", "g", "h");
+            due("the first and the last", worked("give0/5>1;cut0/0;give0/3>1;cut0/0"), 4);
+            due("belt 0", toldWhole(0), "d-f");
+            due("belt 1", toldWhole(1), "h-g");
+        });
+        test("\"fast\" (it is tightened), by its place on the belt", () -> {
+            weather(1, 8);
+            tiedAll(0, "ab", "ac", "ad");
+            tied(1, "ae");
+            x.storm(0);
+            x.storm(1);
+            due("one part", worked("fast0/1"), 1);
+            due("the first stays loose", x.knot(0, 0, 0, 2), 1);
+            due("the second is tight", x.knot(0, 1, 0, 2), 0);
+            due("the second as it read", x.knot(0, 1, 0, 0), 1);
+            due("the third stays loose", x.knot(0, 2, 0, 2), 1);
+            due("one of another belt stays loose", x.knot(1, 0, 0, 2), 1);
+            due("cord", x.count(4), 9 + 11 + 11 + 10);
+        });
+        test("\"cut\" (it is untied), by its place on the belt", () -> {
+            tiedAll(0, "a", "b", "c");
+            tied(1, "d");
+            due("one part", worked("cut0/1"), 1);
+            due("belt 0", toldWhole(0), "a-c");
+            due("belt 1", toldWhole(1), "d");
+            due("none is lost", x.count(7), 0);
+            due("none is given", x.count(8), 0);
+        });
+        test("each part does what its word says, and nothing else", () -> {
+            x.set(0, 1);
+            tiedAll(0, "cd", "ab");
+            due("a storm", worked("storm0"), 1);
+            due("loosened", toldWhole(0), "cd-bb");
+            due("loose, not tightened", x.count(5), 1);
+            due("a gift", worked("give0/0>3"), 1);
+            due("belt 0", toldWhole(0), "bb");
+            due("belt 3", toldWhole(3), "cd");
+            due("loose", x.count(5), 1);
+            due("storms", x.count(1), 1);
+            due("another name", worked("tie4:a"), 1);
+            due("storms", x.count(1), 1);
+            due("names", x.count(0), 3);
+            worked("storm2;give0/3>1");
+            cordIs("behind a stop", 9 + 13 + 5);
         });
         test("a syntax error, if no works of any length begin with the characters before it and this character", () -> {
             errorAt(60, "storm0;storm0;storm0;storm0;storm0;storm0;storm0;storm0;tie0");
