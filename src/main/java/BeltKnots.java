@@ -3,8 +3,8 @@
  * to them, and the list of those who drowned.
  *
  * The methods here look at their arguments, throw what is to be thrown, and
- * leave the rest to the classes inside. No method makes an object: every row
- * is made with the object and used again.
+ * leave the rest to the classes inside. No method makes an object but what it
+ * throws: every row is made with the object and used again.
  */
 public final class BeltKnots {
     public static final int NONE = -1;
